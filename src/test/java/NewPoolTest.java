@@ -7,6 +7,7 @@ public final class NewPoolTest {
     foldIsZero();
     cursorAndRotAreZero();
     poolsShareNothing();
+    interleavedPoolsAnswerAsAlone();
     Check.end();
   }
 
@@ -67,5 +68,20 @@ public final class NewPoolTest {
     Check.due("a pool made before: mix(5)", older.mix(5), 5);
     Check.due("a pool made after: mix(5)", new EntropyPool().mix(5), 5);
     Check.due("the used pool still: available()", used.available(), 91);
+  }
+
+  /** Taking turns would show a cell, cursor or rot that two pools share. */
+  private static void interleavedPoolsAnswerAsAlone() {
+    int[] alone = new int[40];
+    EntropyPool single = new EntropyPool();
+    for (int i = 0; i < alone.length; i++) {
+      alone[i] = single.mix(i + 1);
+    }
+    EntropyPool first = new EntropyPool();
+    EntropyPool second = new EntropyPool();
+    for (int i = 0; i < alone.length; i++) {
+      Check.due("the first of two pools: mix(" + (i + 1) + ")", first.mix(i + 1), alone[i]);
+      Check.due("the second of two pools: mix(" + (i + 1) + ")", second.mix(i + 1), alone[i]);
+    }
   }
 }
