@@ -1,12 +1,25 @@
-/** What the tests share: counting wrong answers, and comparing two pools by what they answer. */
+import java.util.function.ToLongFunction;
+
+/** What the tests share: a test for each sentence of the document, and counting wrong answers. */
 final class Check {
-  private static int calls = 0;
+  private static int answers = 0;
   private static int wrong = 0;
 
   private Check() {}
 
+  /** Runs the test of one sentence of the document. A test that asks nothing is wrong, too. */
+  static void sentence(String text, Runnable test) {
+    int answersBefore = answers;
+    int wrongBefore = wrong;
+    test.run();
+    isTrue("the test asks something", answers > answersBefore);
+    if (wrong > wrongBefore) {
+      System.out.println("BROKEN: " + text);
+    }
+  }
+
   static void due(String call, long got, long want) {
-    calls++;
+    answers++;
     if (got != want) {
       wrong++;
       System.out.println(call + " answered " + got + ", due is " + want);
@@ -14,32 +27,36 @@ final class Check {
   }
 
   static void isTrue(String claim, boolean holds) {
-    calls++;
+    answers++;
     if (!holds) {
       wrong++;
       System.out.println("does not hold: " + claim);
     }
   }
 
-  /**
-   * Finds whether two pools are in the same state, by their answers alone. It uses them up.
-   * 16 mixing steps show every cell; words other than 0 show rot; two more rounds show the cursor,
-   * since rot takes its longer step only when the cursor comes to 0.
-   */
-  static void sameState(String when, EntropyPool got, EntropyPool want) {
-    due(when + ": available()", got.available(), want.available());
-    for (int i = 0; i < 48; i++) {
-      due(when + ": mix(1), call " + (i + 1) + " of the probe", got.mix(1), want.mix(1));
-    }
-    due(when + ": available() behind the probe", got.available(), want.available());
-    due(when + ": credit(512) behind the probe", got.credit(512), want.credit(512));
+  /** One call on a pool in the state before: what it answers, and the whole state behind it. */
+  static void call(Model before, String call, ToLongFunction<EntropyPool> asked, long answer, Model after) {
+    EntropyPool pool = Pools.in(before);
+    due(call + " at " + before, asked.applyAsLong(pool), answer);
+    sameState("behind " + call + " at " + before, Pools.seenIn(pool), after);
+  }
+
+  /** A call that answers and changes nothing: cells, cursor, rot and credit. */
+  static void unchanged(Model before, String call, ToLongFunction<EntropyPool> asked, long answer) {
+    call(before, call, asked, answer, before);
+  }
+
+  static void sameState(String when, Model got, Model want) {
+    due(when + ": credit", got.credit, want.credit);
+    due(when + ": cursor", got.cursor, want.cursor);
+    due(when + ": rot", got.rot, want.rot);
     for (int i = 0; i < 16; i++) {
-      due(when + ": extract(32), call " + (i + 1) + " of the probe", got.extract(32), want.extract(32));
+      due(when + ": cell " + i, got.cells[i], want.cells[i]);
     }
   }
 
   static void end() {
-    System.out.println(wrong == 0 ? calls + " answers are as due" : wrong + " of " + calls + " answers are not as due");
+    System.out.println(wrong == 0 ? answers + " answers are as due" : wrong + " of " + answers + " answers are not as due");
     if (wrong != 0) {
       System.exit(1);
     }

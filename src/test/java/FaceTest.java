@@ -8,10 +8,10 @@ import java.util.TreeSet;
 /** The public face: the document's constructor and methods, and nothing else that is not private. */
 public final class FaceTest {
   public static void main(String[] args) {
-    classIsPublicAndFinal();
-    constructorTakesNothing();
-    methodsAreTheDocuments();
-    fieldsArePrivate();
+    Check.sentence("The class is final.", FaceTest::classIsPublicAndFinal);
+    Check.sentence("It has no public constants.", FaceTest::fieldsArePrivate);
+    Check.sentence("public EntropyPool();", FaceTest::constructorTakesNothing);
+    Check.sentence("The public face: mix, credit, extract, available.", FaceTest::methodsAreTheDocuments);
     Check.end();
   }
 

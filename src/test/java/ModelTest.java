@@ -1,8 +1,4 @@
-/**
- * All promises at once: long runs of mixed calls against a second writing of the document. The
- * model is written in another way than the class (a list of bits for the rotation, % in place of
- * masks, long sums), so that both are not wrong in the same manner.
- */
+/** All promises at once: long runs of mixed calls against a second writing of the document. */
 public final class ModelTest {
   private static final int[] WORDS = {0, 1, -1, 5, Integer.MIN_VALUE, Integer.MAX_VALUE, 0x0F0F0F0F};
   private static final int[] CREDITS = {0, 1, 7, 31, 32, 33, 200, 512, 513, -1, Integer.MIN_VALUE, Integer.MAX_VALUE};
@@ -50,59 +46,6 @@ public final class ModelTest {
       } else {
         Check.due(where + "available()", pool.available(), model.credit);
       }
-    }
-  }
-
-  private static final class Model {
-    final int[] cells = new int[16];
-    int cursor = 0;
-    int rot = 0;
-    long credit = 0;
-
-    static int rotate(int word, int places) {
-      int turned = 0;
-      for (int bit = 0; bit < 32; bit++) {
-        if ((word >> bit & 1) == 1) {
-          turned |= 1 << (bit + places) % 32;
-        }
-      }
-      return turned;
-    }
-
-    int mix(int word) {
-      int w = rotate(word, rot);
-      cursor = cursor == 0 ? 15 : cursor - 1;
-      rot = (rot + (cursor == 0 ? 14 : 7)) % 32;
-      int value = w;
-      for (int tap : new int[] {0, 1, 6, 11}) {
-        value ^= cells[(cursor + tap) % 16];
-      }
-      cells[cursor] = value;
-      return value;
-    }
-
-    long credit(int bits) {
-      if (bits < 0) {
-        return -1;
-      }
-      credit = Math.min(512L, credit + bits);
-      return credit;
-    }
-
-    long extract(int bits) {
-      if (bits < 1 || bits > 32) {
-        return -2;
-      }
-      if (credit < bits) {
-        return -1;
-      }
-      int fold = 0;
-      for (int cell : cells) {
-        fold ^= cell;
-      }
-      credit -= bits;
-      mix(fold);
-      return Integer.toUnsignedLong(fold) % (1L << bits);
     }
   }
 }

@@ -1,50 +1,38 @@
-/** Promise 1. */
+/** Promise 1, sentence by sentence. */
 public final class NewPoolTest {
   public static void main(String[] args) {
-    creditIsZero();
-    extractIsRefused();
-    cellsAreZero();
-    foldIsZero();
-    cursorAndRotAreZero();
-    poolsShareNothing();
-    interleavedPoolsAnswerAsAlone();
+    Check.sentence("all 16 cells are 0", NewPoolTest::cellsAreZero);
+    Check.sentence("the cursor is 0", NewPoolTest::cursorIsZero);
+    Check.sentence("rot is 0", NewPoolTest::rotIsZero);
+    Check.sentence("the credit is 0", NewPoolTest::creditIsZero);
+    Check.sentence("So available() on a new pool answers 0.", NewPoolTest::availableAnswersZero);
+    Check.sentence("Any extract on a new pool answers -2 (for bits outside 1..32)", NewPoolTest::extractOutOfRange);
+    Check.sentence("or -1 (for bits in 1..32, since the credit 0 is below every such bits).", NewPoolTest::extractInRange);
+    Check.sentence("Separate pools share no state.", NewPoolTest::poolsShareNoState);
+    Check.sentence("Separate pools share no state (taking turns).", NewPoolTest::poolsInTurnsAnswerAsAlone);
     Check.end();
   }
 
-  private static void creditIsZero() {
-    Check.due("new: available()", new EntropyPool().available(), 0);
-    Check.due("new: credit(0)", new EntropyPool().credit(0), 0);
-  }
-
-  private static void extractIsRefused() {
-    for (int bits = 1; bits <= 32; bits++) {
-      Check.due("new: extract(" + bits + ")", new EntropyPool().extract(bits), -1);
-    }
-    for (int bits : new int[] {0, -1, 33, 34, 64, Integer.MIN_VALUE, Integer.MAX_VALUE}) {
-      Check.due("new: extract(" + bits + ")", new EntropyPool().extract(bits), -2);
-    }
-  }
-
   private static void cellsAreZero() {
-    EntropyPool pool = new EntropyPool();
-    for (int i = 0; i < 64; i++) {
-      Check.due("new: mix(0), call " + (i + 1), pool.mix(0), 0);
-    }
-  }
-
-  private static void foldIsZero() {
-    EntropyPool pool = new EntropyPool();
-    pool.credit(512);
+    Model seen = Pools.seenIn(new EntropyPool());
     for (int i = 0; i < 16; i++) {
-      Check.due("new, credited: extract(32), call " + (i + 1), pool.extract(32), 0);
+      Check.due("new: cell " + i, seen.cells[i], 0);
+    }
+    EntropyPool mixed = new EntropyPool();
+    for (int i = 0; i < 64; i++) {
+      Check.due("new: mix(0), call " + (i + 1), mixed.mix(0), 0);
+    }
+    EntropyPool folded = new EntropyPool();
+    folded.credit(512);
+    for (int i = 0; i < 16; i++) {
+      Check.due("new, credited: extract(32), call " + (i + 1), folded.extract(32), 0);
     }
   }
 
-  /** With the cells at 0, words of 0 move only the cursor and rot, and one word 1 then shows rot. */
-  private static void cursorAndRotAreZero() {
-    int[] rots = {
-      0, 7, 14, 21, 28, 3, 10, 17, 24, 31, 6, 13, 20, 27, 2, 9, 23, 30, 5, 12, 19, 26, 1, 8, 15, 22, 29, 4, 11, 18, 25, 0, 14
-    };
+  private static void cursorIsZero() {
+    Check.due("new: cursor", Pools.seenIn(new EntropyPool()).cursor, 0);
+    // Without the reading tool: the step of 14 comes with the 16th step, from rot 9 to rot 23.
+    int[] rots = {0, 7, 14, 21, 28, 3, 10, 17, 24, 31, 6, 13, 20, 27, 2, 9, 23, 30};
     for (int steps = 0; steps < rots.length; steps++) {
       EntropyPool pool = new EntropyPool();
       for (int i = 0; i < steps; i++) {
@@ -54,34 +42,67 @@ public final class NewPoolTest {
     }
   }
 
-  private static void poolsShareNothing() {
-    EntropyPool used = new EntropyPool();
-    EntropyPool older = new EntropyPool();
-    for (int i = 0; i < 20; i++) {
-      used.mix(12345 + i);
-    }
-    used.credit(100);
-    used.extract(9);
-    Check.due("the used pool: available()", used.available(), 91);
-    Check.due("a pool made before: available()", older.available(), 0);
-    Check.due("a pool made after: available()", new EntropyPool().available(), 0);
-    Check.due("a pool made before: mix(5)", older.mix(5), 5);
-    Check.due("a pool made after: mix(5)", new EntropyPool().mix(5), 5);
-    Check.due("the used pool still: available()", used.available(), 91);
+  private static void rotIsZero() {
+    Check.due("new: rot", Pools.seenIn(new EntropyPool()).rot, 0);
+    Check.due("new: mix(1)", new EntropyPool().mix(1), 1);
   }
 
-  /** Taking turns would show a cell, cursor or rot that two pools share. */
-  private static void interleavedPoolsAnswerAsAlone() {
-    int[] alone = new int[40];
-    EntropyPool single = new EntropyPool();
-    for (int i = 0; i < alone.length; i++) {
-      alone[i] = single.mix(i + 1);
+  private static void creditIsZero() {
+    Check.due("new: credit", Pools.seenIn(new EntropyPool()).credit, 0);
+    Check.due("new: credit(0)", new EntropyPool().credit(0), 0);
+    Check.due("new: credit(1)", new EntropyPool().credit(1), 1);
+  }
+
+  private static void availableAnswersZero() {
+    Check.due("new: available()", new EntropyPool().available(), 0);
+  }
+
+  private static void extractOutOfRange() {
+    for (int bits : new int[] {0, -1, -2, -32, 33, 34, 64, 65, 512, Integer.MIN_VALUE, Integer.MAX_VALUE}) {
+      EntropyPool pool = new EntropyPool();
+      Check.due("new: extract(" + bits + ")", pool.extract(bits), -2);
+      Check.sameState("new, behind extract(" + bits + ")", Pools.seenIn(pool), new Model());
     }
+  }
+
+  private static void extractInRange() {
+    for (int bits = 1; bits <= 32; bits++) {
+      EntropyPool pool = new EntropyPool();
+      Check.due("new: extract(" + bits + ")", pool.extract(bits), -1);
+      Check.sameState("new, behind extract(" + bits + ")", Pools.seenIn(pool), new Model());
+    }
+  }
+
+  private static void poolsShareNoState() {
+    EntropyPool older = new EntropyPool();
+    EntropyPool used = new EntropyPool();
+    Model model = new Model();
+    for (int i = 0; i < 20; i++) {
+      used.mix(12345 + i);
+      model.mix(12345 + i);
+    }
+    used.credit(100);
+    model.credit(100);
+    used.extract(9);
+    model.extract(9);
+    EntropyPool newer = new EntropyPool();
+    Check.sameState("a pool made before the used one", Pools.seenIn(older), new Model());
+    Check.sameState("a pool made behind the used one", Pools.seenIn(newer), new Model());
+    Check.sameState("the used pool itself", Pools.seenIn(used), model);
+  }
+
+  private static void poolsInTurnsAnswerAsAlone() {
     EntropyPool first = new EntropyPool();
     EntropyPool second = new EntropyPool();
-    for (int i = 0; i < alone.length; i++) {
-      Check.due("the first of two pools: mix(" + (i + 1) + ")", first.mix(i + 1), alone[i]);
-      Check.due("the second of two pools: mix(" + (i + 1) + ")", second.mix(i + 1), alone[i]);
+    Model firstAlone = new Model();
+    Model secondAlone = new Model();
+    for (int i = 1; i <= 40; i++) {
+      Check.due("first: mix(" + i + ")", first.mix(i), firstAlone.mix(i));
+      Check.due("second: mix(" + -i + ")", second.mix(-i), secondAlone.mix(-i));
+      Check.due("first: credit(3)", first.credit(3), firstAlone.credit(3));
+      Check.due("second: credit(20)", second.credit(20), secondAlone.credit(20));
+      Check.due("first: extract(5)", first.extract(5), firstAlone.extract(5));
+      Check.due("second: extract(7)", second.extract(7), secondAlone.extract(7));
     }
   }
 }
