@@ -270,7 +270,8 @@ public final class ExtractTest {
     for (int cursor : new int[] {0, 1, 15}) {
       Model before = Model.filled(cursor, 25, 31);
       EntropyPool pool = Pools.in(before);
-      for (int i = 0; i < 100; i++) {
+      // An odd number of rounds, lest a fault that comes and goes be gone again at the end.
+      for (int i = 0; i < 101; i++) {
         for (int bits : TOO_SMALL) {
           Check.due("extract(" + bits + ")", pool.extract(bits), -2);
         }
@@ -279,7 +280,7 @@ public final class ExtractTest {
         }
         Check.due("extract(32) at credit 31", pool.extract(32), -1);
       }
-      Check.sameState("behind 2,400 refusals", Pools.seenIn(pool), before);
+      Check.sameState("behind all refusals", Pools.seenIn(pool), before);
     }
   }
 

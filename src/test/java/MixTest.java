@@ -38,7 +38,7 @@ public final class MixTest {
     Check.sentence("all indexes taken modulo 16.", MixTest::tapsWrapAround);
     Check.sentence("the old value of cell c takes part in its own new value.", MixTest::oldValueTakesPart);
     Check.sentence("Answer: the value just stored in cell c.", MixTest::answerIsTheStoredValue);
-    Check.sentence("What changes: the cursor, rot and cell c.", MixTest::onlyOneCellChanges);
+    Check.sentence("What changes: the cursor, rot and cell c. What does not change: the other 15 cells and the credit.", MixTest::onlyOneCellChanges);
     Check.sentence("mix never alters the credit, whatever the word.", MixTest::creditIsLeftAlone);
     Check.sentence("every int result is simply a 32-bit pattern, negative values included.", MixTest::resultsMayBeNegative);
     Check.sentence("For example, on a new pool mix(5) ... The answer is 5.", MixTest::firstOfTheExample);
@@ -134,6 +134,11 @@ public final class MixTest {
     for (int rot = 0; rot <= 31; rot++) {
       Check.due("rot behind mix at cursor 1, rot " + rot, rotBehindMix(1, rot), (rot + 14) % 32);
     }
+    // Without the reading tool, which finds the cursor by this very step: 15 steps of 7 come to
+    // 105, that is 9 modulo 32, and the 16th, to cell 0, goes on to 23.
+    Check.due("mix(1) behind 15 steps", afterZeros(15).mix(1), 1 << 9);
+    Check.due("mix(1) behind 16 steps", afterZeros(16).mix(1), 1 << 23);
+    Check.due("mix(1) behind 17 steps", afterZeros(17).mix(1), 1 << 30);
   }
 
   private static void rotStepsBySevenElsewhere() {

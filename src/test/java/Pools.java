@@ -51,12 +51,13 @@ final class Pools {
    * explains is shown with cursor and rot -1.
    */
   static Model seenIn(EntropyPool pool) {
-    int credit = pool.available();
     // stored[16 + i] is what step i stored, stored[i] what that cell held before the probe.
     int[] stored = new int[16 + PROBES];
     for (int i = 0; i < PROBES; i++) {
       stored[16 + i] = pool.mix(1);
     }
+    // Asked last, lest available() undo a change that the test's own call of it made.
+    int credit = pool.available();
     int[] rots = new int[PROBES];
     int cursor = -1;
     for (int i = 16; i < PROBES; i++) {
